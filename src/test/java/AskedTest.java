@@ -218,7 +218,7 @@ public final class AskedTest {
 
     private static void looks() {
         EvenFinders x = Check.in("places 3;finder 0;thing 0 5;thing 1 7;own 0 5;");
-        // At 0: 5 six times (0 at 0, 1 at 1 and 2, 2 at 1 and 2 make 5; ..), so by hand for each PLACE:
+        // By hand, the pairs of THING and PLACE by the WORTH that would lie there:
         // PLACE 0 worth 5: (0,0) (1,1) (1,2) (2,1) (2,2); 0: (0,1) (0,2); 12: (1,0); 10: (2,0).
         // PLACE 1 worth 7: (0,0) (0,2) (1,1) (2,0) (2,2); 0: (1,0) (1,2); 12: (0,1) (2,1).
         // PLACE 2 worth 0: (0,0) (0,1) (1,0) (1,1) (2,0) (2,1); 5: (0,2) (2,2); 7: (1,2).
