@@ -10,15 +10,33 @@ final class Check {
 
     private static int wrong = 0;
     private static int asked = 0;
+    private static String within = "";
 
     private Check() {
+    }
+
+    /** What is printed ahead of each label from here on. */
+    static void within(String text) {
+        within = text;
+    }
+
+    static int asked() {
+        return asked;
     }
 
     static void is(String label, long got, long want) {
         asked++;
         if (got != want) {
             wrong++;
-            System.out.println(label + " answered " + name(got) + ", due is " + name(want));
+            System.out.println(within + label + " answered " + name(got) + ", due is " + name(want));
+        }
+    }
+
+    static void same(String label, String got, String want) {
+        asked++;
+        if (!got.equals(want)) {
+            wrong++;
+            System.out.println(within + label + " is\n  " + got + "\ndue is\n  " + want);
         }
     }
 
@@ -87,7 +105,7 @@ final class Check {
         EvenFinders x = new EvenFinders();
         if (town(x, town) < 0) {
             wrong++;
-            System.out.println("the town does not stand: " + town + " at " + x.fault());
+            System.out.println(within + "the town does not stand: " + town + " at " + x.fault());
         }
         return x;
     }
