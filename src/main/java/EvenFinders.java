@@ -553,16 +553,10 @@ public final class EvenFinders {
             return at < length && fault == 0 ? bytes[at] : NONE;
         }
 
-        boolean takesSign(char sign) {
-            if (next() != sign) {
-                return false;
-            }
-            at++;
-            return true;
-        }
-
         void needSign(char sign) {
-            if (!takesSign(sign)) {
+            if (next() == sign) {
+                at++;
+            } else {
                 fail(FAULT_STANDS, at);
             }
         }
@@ -933,8 +927,8 @@ public final class EvenFinders {
                 case '*': return a * b;
                 case '/': return b == 0 ? 0 : a / b;
                 case '%': return b == 0 ? 0 : a % b;
-                case '<': return Math.min(a, b);
-                default: return Math.max(a, b);
+                case '<': return a < b ? a : b;
+                default: return a > b ? a : b;
             }
         }
     }
