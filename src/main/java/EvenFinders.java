@@ -32,6 +32,8 @@ public final class EvenFinders {
     private static final int MOST_DUTY = 99;
     private static final int MOST_CREDIT = 99;
     private static final int YEAR_DAYS = 96;
+    // More than any finds of a year, worth of things or pairs left, where the least of some is looked for.
+    private static final int ABOVE_ALL = 1000000;
 
     private static final int FAULT_STANDS = 1;
     private static final int FAULT_NUMBER = 2;
@@ -427,7 +429,7 @@ public final class EvenFinders {
         needWithin(days, 1, YEAR_DAYS);
         needWithin(what, 0, 2);
         needWithin(finder, 0, town.finders - 1);
-        int fewest = Integer.MAX_VALUE;
+        int fewest = ABOVE_ALL;
         int most = 0;
         int even = 0;
         for (int i = 0; i < many; i++) {
@@ -1294,7 +1296,7 @@ public final class EvenFinders {
             }
             int held = heldBy(finder);
             int best = NONE;
-            int bestRank = Integer.MAX_VALUE;
+            int bestRank = ABOVE_ALL;
             for (int set = 1; set <= held; set++) {
                 if ((set & ~held) == 0) {
                     int worth = town.worthOf(set);
@@ -1576,7 +1578,7 @@ public final class EvenFinders {
 
         int nextPlace() {
             int best = NONE;
-            int least = Integer.MAX_VALUE;
+            int least = ABOVE_ALL;
             for (int place = 0; place < town.places; place++) {
                 if (book.worthAt[place] == NONE) {
                     int left = leftAtWorst(place);

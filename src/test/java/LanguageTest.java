@@ -4,6 +4,7 @@ import com.sun.source.tree.CompilationUnitTree;
 import com.sun.source.tree.ImportTree;
 import com.sun.source.tree.LambdaExpressionTree;
 import com.sun.source.tree.MemberReferenceTree;
+import com.sun.source.tree.MemberSelectTree;
 import com.sun.source.tree.MethodTree;
 import com.sun.source.tree.NewClassTree;
 import com.sun.source.tree.SynchronizedTree;
@@ -25,6 +26,9 @@ import javax.tools.ToolProvider;
 public final class LanguageTest extends TreeScanner<Void, Void> {
     private static final Set<String> IMPORTS = Set.of("java.util.Arrays", "java.util.NoSuchElementException");
     private static final Set<String> THROWN = Set.of("IllegalArgumentException", "NoSuchElementException");
+    private static final Set<String> LIBRARY = Set.of("Arrays", "Integer", "Long", "Math", "String", "System");
+    private static final Set<String> TAKEN = Set.of("Arrays.fill", "Integer.bitCount", "Math.max", "Math.min",
+            "System.arraycopy");
     private static final int MOST_LINES = 60;
     private static final int MOST_PARAMETERS = 7;
     private static final int MOST_CLASSES = 12;
@@ -109,6 +113,14 @@ public final class LanguageTest extends TreeScanner<Void, Void> {
     @Override public Void visitMemberReference(MemberReferenceTree tree, Void v) {
         never("method reference", tree);
         return super.visitMemberReference(tree, v);
+    }
+
+    /** Rule 4: only functions that it lists, and no constant of the library such as Integer's greatest. */
+    @Override public Void visitMemberSelect(MemberSelectTree tree, Void v) {
+        if (LIBRARY.contains(tree.getExpression().toString())) {
+            Check.is("library: " + tree, TAKEN.contains(tree.toString()) ? 1 : 0, 1);
+        }
+        return super.visitMemberSelect(tree, v);
     }
 
     @Override public Void visitSynchronized(SynchronizedTree tree, Void v) {
